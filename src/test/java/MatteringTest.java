@@ -21,6 +21,7 @@ public final class MatteringTest {
         firstCalledByAnother();
         longChain();
         followsTheProgram();
+        askedAlone();
         Answers.end();
     }
 
@@ -293,5 +294,24 @@ public final class MatteringTest {
         dueMatters("built again", desk, 0, 0, true, 0);
         desk.run(1, 0, 0);
         dueMatters("after a run", desk, 0, 0, true, 0);
+    }
+
+    /** Each question is asked first after a change, so none leans on what another one has found. */
+    private static void askedAlone() {
+        ProcedureDesk desk = Answers.desk(2, 1);
+        Answers.put(desk, 0, Answers.CALL, 2, 1, 0, 1);
+        Answers.put(desk, 1, Answers.ADD, 0, 0, 0, 0);
+        Answers.put(desk, 1, Answers.BACK, 0);
+        Answers.due(15, "asked first", 2, desk.instructionsThatMatter(1));
+        Answers.put(desk, 0, Answers.BACK, 2);
+        Answers.due(15, "asked first, result needed", 3, desk.instructionsThatMatter(1));
+        desk.drop(0);
+        Answers.due(14, "asked first", false, desk.resultMatters(1));
+        Answers.put(desk, 0, Answers.BACK, 2);
+        Answers.due(14, "asked first, result needed", true, desk.resultMatters(1));
+        desk.drop(0);
+        Answers.due(13, "asked first", 0, desk.parametersThatMatter(0));
+        Answers.put(desk, 0, Answers.BACK, 2);
+        Answers.due(13, "asked first, result needed", 2, desk.parametersThatMatter(0));
     }
 }

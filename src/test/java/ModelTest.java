@@ -8,8 +8,8 @@ import java.util.List;
 public final class ModelTest {
     private static final int OBJECTS = 8000;
 
-    // An object is good for 512 calls, and the largest round of questions makes 28.
-    private static final int CALLS = 512 - 28;
+    // An object is good for 512 calls, and one call with all the questions after it makes at most 13.
+    private static final int CALLS = 512 - 13;
 
     private static long seed = 20261115L;
     private static int callsMade;
@@ -122,13 +122,18 @@ public final class ModelTest {
         due(6, what + ", length", model.has(p) ? model.procedures.get(p).size() : -1, desk.length(p));
     }
 
+    /** One question of the three, so that none leans on what another one has found. */
     private static void askWhatMatters(String what, ProcedureDesk desk, Model model) {
         model.findFacts();
+        int question = pick(3);
         for (int p = -1; p <= 5; p++) {
-            int result = model.has(p) && model.resultFacts[p] ? 1 : 0;
-            due(13, what + ", parameters of " + p, model.parametersThatMatter(p), desk.parametersThatMatter(p));
-            due(14, what + ", result of " + p, result, desk.resultMatters(p) ? 1 : 0);
-            due(15, what + ", instructions of " + p, model.instructionsThatMatter(p), desk.instructionsThatMatter(p));
+            if (question == 0) {
+                due(13, what + ", parameters of " + p, model.parametersThatMatter(p), desk.parametersThatMatter(p));
+            } else if (question == 1) {
+                due(14, what + ", result of " + p, model.resultMatters(p), desk.resultMatters(p) ? 1 : 0);
+            } else {
+                due(15, what + ", instructions of " + p, model.instructionsThatMatter(p), desk.instructionsThatMatter(p));
+            }
         }
     }
 
@@ -326,6 +331,10 @@ public final class ModelTest {
                 bits |= liveFacts[p][0][i] ? 1 << i : 0;
             }
             return bits;
+        }
+
+        int resultMatters(int p) {
+            return has(p) && resultFacts[p] ? 1 : 0;
         }
 
         int instructionsThatMatter(int p) {

@@ -14,6 +14,7 @@ public final class RunningTest {
         forks();
         calls();
         callsStartAfresh();
+        callsWithoutParametersStartAtZero();
         callWithSixAsFirstRegister();
         ends();
         tiredAtTheEdge();
@@ -133,6 +134,19 @@ public final class RunningTest {
         Answers.put(desk, 1, Answers.BACK, 3);
         desk.run(7, 0, 0);
         Answers.dueRun(7, "an activation has registers of its own", desk, DONE, 14, 12, 7, 0);
+    }
+
+    private static void callsWithoutParametersStartAtZero() {
+        ProcedureDesk desk = Answers.desk(0, 0);
+        for (int register = 0; register < 6; register++) {
+            Answers.put(desk, 1, Answers.OUT, register);
+        }
+        Answers.put(desk, 1, Answers.SET, 0, 0, 0, 8);
+        Answers.put(desk, 1, Answers.SET, 5, 0, 0, 9);
+        Answers.put(desk, 0, Answers.CALL, 1, 0, 0, 1);
+        Answers.put(desk, 0, Answers.CALL, 1, 0, 0, 1);
+        desk.run(7, 7, 7);
+        Answers.dueRun(7, "a second call where the first one left numbers", desk, DONE, 0, 18, new int[12]);
     }
 
     private static void callWithSixAsFirstRegister() {
