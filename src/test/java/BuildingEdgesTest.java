@@ -6,6 +6,7 @@ public final class BuildingEdgesTest extends Edges {
         proceduresInOrder();
         parameterCounts();
         eightInstructions();
+        numbersOfAnInstruction();
         newObjectHasNoProcedures();
         newObjectHasNoRun();
         fiveHundredAndTwelveCalls();
@@ -89,6 +90,32 @@ public final class BuildingEdgesTest extends Edges {
         s.due("run of all forty", DONE, desk.run(0, 0, 0));
         s.dueRun("run of all forty", desk, DONE, 14, 40,
             10, 12, 14, 16, 20, 22, 24, 26, 30, 32, 34, 36, 40, 42, 44, 46, 14);
+    }
+
+    private static void numbersOfAnInstruction() {
+        Sentence s = new Sentence(3, "three numbers a, b, c (0 .. 7 each) and a number n (an int)");
+        int[] withoutBAndC = {Answers.SET, Answers.OUT, Answers.BACK};
+        int[] ints = {LEAST, LEAST + 1, -1, 0, 1, 8, 9, GREATEST - 1, GREATEST};
+        for (int n : ints) {
+            for (int op : withoutBAndC) {
+                for (int b = 0; b < 8; b++) {
+                    for (int c = 0; c < 8; c++) {
+                        int number = Answers.abc(5, b, c);
+                        s.due("op " + op + ", abc " + number + ", n " + n, 0, Answers.desk(0).emit(0, op, number, n));
+                    }
+                }
+            }
+            for (int op = Answers.ADD; op <= Answers.LESS; op++) {
+                s.due("op " + op + ", n " + n, 0, Answers.desk(0).emit(0, op, Answers.abc(5, 4, 3), n));
+            }
+            ProcedureDesk desk = single(0, set(3, n), back(3));
+            desk.run(0, 0, 0);
+            s.due("SET of " + n, n, desk.result());
+        }
+        for (int c = 0; c < 8; c++) {
+            s.due("FORK, c " + c, 0, Answers.desk(0).emit(0, Answers.FORK, Answers.abc(0, 7, c), 1));
+            s.due("CALL, c " + c, 0, Answers.desk(0).emit(0, Answers.CALL, Answers.abc(0, 6, c), 0));
+        }
     }
 
     private static void newObjectHasNoProcedures() {

@@ -61,11 +61,13 @@ public final class RunningEdgesTest extends Edges {
     private static void registersOfTenActivations() {
         Sentence s = new Sentence(7, "An ACTIVATION of a procedure has six registers");
         // Ten activations, each of which looks at its registers again when the ones it called have ended.
-        ProcedureDesk desk = single(1, fork(0, 8), set(1, 1), sub(2, 0, 1), add(5, 0, 0), call(3, 2, 0), out(0), out(5), back(5));
+        ProcedureDesk desk = single(1, fork(0, 8), set(1, 1), sub(2, 0, 1), add(5, 0, 0), call(3, 2, 0));
+        body(desk, 0, out(0), out(5), back(5));
         s.due("run", DONE, desk.run(9, 0, 0));
         s.dueRun("registers of nine callers", desk, DONE, 18, 73,
             1, 2, 2, 4, 3, 6, 4, 8, 5, 10, 6, 12, 7, 14, 8, 16, 9, 18);
-        ProcedureDesk last = single(1, fork(0, 5), set(1, 1), sub(0, 0, 1), call(4, 0, 0), back(4), set(5, 77), out(5), back(5));
+        ProcedureDesk last = single(1, fork(0, 5), set(1, 1), sub(0, 0, 1), call(4, 0, 0), back(4));
+        body(last, 0, set(5, 77), out(5), back(5));
         s.due("run", DONE, last.run(9, 0, 0));
         s.dueRun("register 5 of the tenth", last, DONE, 77, 49, 77);
     }
